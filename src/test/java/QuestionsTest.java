@@ -209,9 +209,8 @@ public final class QuestionsTest {
         Checks.works(x, "a0:12;v1:22;n3;l2:0;s2:17;x9");
         Checks.type(x, "h0:~");
         Checks.due("51: digest() by the list", x.digest(), listed(x, "h0:~"));
-        x.clearBuffer();
-        Checks.works(x, "i0;n0");
-        Checks.due("51: digest() by the list, none left", x.digest(), listed(x, ""));
+        AlibiDeals none = with("i0;n0");
+        Checks.due("51: digest() by the list, none left", none.digest(), listed(none, ""));
     }
 
     private static long hash(long start, long... values) {
