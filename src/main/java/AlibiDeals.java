@@ -75,7 +75,7 @@ public final class AlibiDeals {
         checkCard(card);
         checkRoomForClue();
         remember();
-        now.add(HAS, player, bit(card));
+        now.add(HAS, player, 1 << card);
         return now.count;
     }
 
@@ -84,7 +84,7 @@ public final class AlibiDeals {
         checkCard(card);
         checkRoomForClue();
         remember();
-        now.add(LACKS, player, bit(card));
+        now.add(LACKS, player, 1 << card);
         return now.count;
     }
 
@@ -94,7 +94,7 @@ public final class AlibiDeals {
         checkCards(suspect, tool, room);
         checkRoomForClue();
         remember();
-        now.add(SHOWS, player, bit(suspect) | bit(tool) | bit(room));
+        now.add(SHOWS, player, mask(suspect, tool, room));
         return now.count;
     }
 
@@ -120,7 +120,7 @@ public final class AlibiDeals {
         checkCards(suspect, tool, room);
         checkRoomForClue();
         remember();
-        return now.addAnswer(player, bit(suspect) | bit(tool) | bit(room));
+        return now.addAnswer(player, mask(suspect, tool, room));
     }
 
     public int look(int player, int suspect, int tool, int room)
@@ -129,14 +129,14 @@ public final class AlibiDeals {
         checkCards(suspect, tool, room);
         checkRoomForClue();
         remember();
-        return now.addSight(player, bit(suspect) | bit(tool) | bit(room));
+        return now.addSight(player, mask(suspect, tool, room));
     }
 
     public boolean accuse(int suspect, int tool, int room) throws IndexOutOfBoundsException, IllegalStateException {
         checkCards(suspect, tool, room);
         checkRoomForClue();
         remember();
-        return now.addVerdict(bit(suspect) | bit(tool) | bit(room));
+        return now.addVerdict(mask(suspect, tool, room));
     }
 
     // ---- texts
@@ -287,39 +287,28 @@ public final class AlibiDeals {
     }
 
     public int dealsByHands() {
-        if (!handCount.fresh) {
-            handCount.count(now);
-        }
-        return handCount.total;
+        return countedHands().total;
     }
 
     public int dealsWith(int card, int place) throws IndexOutOfBoundsException {
         checkCard(card);
         checkPlace(place);
-        return countedDeals().with[card * PLACES + place];
+        return countedDeals().withCardAt(card, place);
     }
 
     public boolean mayBe(int card, int place) throws IndexOutOfBoundsException {
-        return dealsWith(card, place) > 0;
+        checkCard(card);
+        checkPlace(place);
+        return countedDeals().withCardAt(card, place) > 0;
     }
 
     public int certainPlace(int card) throws IndexOutOfBoundsException {
         checkCard(card);
-        int left = deals();
-        for (int place = 0; place < PLACES; place++) {
-            if (left > 0 && dealsWith(card, place) == left) {
-                return place;
-            }
-        }
-        return -1;
+        return countedDeals().surePlace(card);
     }
 
     public int certainCards() {
-        int certain = 0;
-        for (int card = 0; card < CARDS; card++) {
-            certain += certainPlace(card) >= 0 ? 1 : 0;
-        }
-        return certain;
+        return countedDeals().sureCards();
     }
 
     // ---- rules
@@ -331,18 +320,12 @@ public final class AlibiDeals {
     public boolean mayBeByRules(int card, int place) throws IndexOutOfBoundsException {
         checkCard(card);
         checkPlace(place);
-        return (filledSheet().places[card] & bit(place)) != 0;
+        return filledSheet().has(card, place);
     }
 
     public int placeByRules(int card) throws IndexOutOfBoundsException {
         checkCard(card);
-        int places = filledSheet().places[card];
-        for (int place = 0; place < PLACES; place++) {
-            if (places == bit(place)) {
-                return place;
-            }
-        }
-        return -1;
+        return filledSheet().onlyPlace(card);
     }
 
     public int crossedOff() {
@@ -350,37 +333,28 @@ public final class AlibiDeals {
     }
 
     public int hiddenCrosses() {
-        int crossedByDeals = 0;
-        for (int card = 0; card < CARDS; card++) {
-            for (int place = 0; place < PLACES; place++) {
-                crossedByDeals += mayBe(card, place) ? 0 : 1;
-            }
-        }
-        return crossedByDeals - crossedOff();
+        return filledSheet().placesLeft() - countedDeals().placesLeft();
     }
 
     // ---- envelopes
 
     public int envelopeDeals(int triple) throws IndexOutOfBoundsException {
         checkTriple(triple);
-        return countedDeals().inEnvelope[triple];
+        return countedDeals().withEnvelope(triple);
     }
 
     public int envelopes() {
-        int some = 0;
-        for (int triple = 0; triple < TRIPLES; triple++) {
-            some += envelopeDeals(triple) > 0 ? 1 : 0;
-        }
-        return some;
+        return countedDeals().envelopesLeft();
     }
 
     public int bestAccusation() throws IllegalStateException {
-        checkDealLeft();
-        return likeliestEnvelope();
+        DealCount left = countedDeals();
+        checkSome(left.total);
+        return left.likeliestEnvelope();
     }
 
     public boolean isSolved() {
-        return envelopes() == 1;
+        return countedDeals().envelopesLeft() == 1;
     }
 
     // ---- what would be; nothing is changed
@@ -388,62 +362,49 @@ public final class AlibiDeals {
     public int dealsIfPassed(int player, int triple) throws IndexOutOfBoundsException {
         checkPlayer(player);
         checkTriple(triple);
-        return countedDeals().dealsWithNone(player, cardsOfTriple(triple));
+        return countedDeals().withNone(player, triple);
     }
 
     public int leftBy(int player, int triple) throws IndexOutOfBoundsException {
-        int passed = dealsIfPassed(player, triple);
-        return Math.max(passed, deals() - passed);
+        checkPlayer(player);
+        checkTriple(triple);
+        return countedDeals().behindQuestion(player, triple);
     }
 
     public int bestQuestion(int player) throws IndexOutOfBoundsException, IllegalStateException {
         checkPlayer(player);
-        checkDealLeft();
-        int best = 0;
-        int least = leftBy(player, 0);
-        for (int triple = 1; triple < TRIPLES; triple++) {
-            int left = leftBy(player, triple);
-            if (left < least) {
-                least = left;
-                best = triple;
-            }
-        }
-        return best;
+        DealCount left = countedDeals();
+        checkSome(left.total);
+        return left.sharpestQuestion(player);
     }
 
     public int dealsWithout(int clue) throws IndexOutOfBoundsException {
         checkClue(clue);
-        return countedDeals().total + countedDeals().hinderedBy[clue];
+        return countedDeals().withoutClue(clue);
     }
 
     public int idleClues() {
-        int idle = 0;
-        for (int clue = 0; clue < now.count; clue++) {
-            idle += dealsWithout(clue) == deals() ? 1 : 0;
-        }
-        return idle;
+        return countedDeals().idleAmong(now.count);
     }
 
     public double chance() {
-        int left = deals();
-        if (left <= 0) {
-            return 0.0;
-        }
-        return (double) envelopeDeals(likeliestEnvelope()) / (double) left;
+        return countedDeals().shareOfLikeliest();
     }
 
     public long digest() {
-        long hash = mixCounts(HASH_START);
-        hash = mixBest(hash);
-        hash = mixClues(hash);
-        hash = mixCards(hash);
-        hash = mixTriples(hash);
+        DealCount left = countedDeals();
+        RuleSheet sheet = filledSheet();
+        long hash = mixCounts(HASH_START, left, sheet);
+        hash = mixBest(hash, left);
+        hash = mixClues(hash, left);
+        hash = mixCards(hash, left, sheet);
+        hash = mixTriples(hash, left);
         hash = mixStop(hash);
-        hash = mix(hash, bitsOfShare(chance()));
+        hash = mix(hash, bitsOfShare(left.shareOfLikeliest()));
         return mixBuffer(hash);
     }
 
-    // ---- parts of the digest
+    // ---- parts of the digest: what is counted comes along, so that few calls stand open at once
 
     private static long mix(long hash, long value) {
         return HASH_FACTOR * hash + value;
@@ -453,65 +414,65 @@ public final class AlibiDeals {
         return mix(hash, value ? 1L : 0L);
     }
 
-    private long mixCounts(long start) {
+    private long mixCounts(long start, DealCount left, RuleSheet sheet) {
         long hash = mix(start, trueEnvelope());
         hash = mix(hash, clues());
         hash = mix(hash, untrueClues());
-        hash = mix(hash, deals());
-        hash = mix(hash, dealsByHands());
-        hash = mix(hash, certainCards());
-        hash = mixFlag(hash, isBroken());
-        hash = mix(hash, crossedOff());
-        hash = mix(hash, hiddenCrosses());
-        hash = mix(hash, envelopes());
-        hash = mixFlag(hash, isSolved());
-        hash = mix(hash, idleClues());
+        hash = mix(hash, left.total);
+        hash = mix(hash, countedHands().total);
+        hash = mix(hash, left.sureCards());
+        hash = mixFlag(hash, sheet.broken);
+        hash = mix(hash, CARDS * PLACES - sheet.placesLeft());
+        hash = mix(hash, sheet.placesLeft() - left.placesLeft());
+        hash = mix(hash, left.envelopesLeft());
+        hash = mixFlag(hash, left.envelopesLeft() == 1);
+        hash = mix(hash, left.idleAmong(now.count));
         return mix(hash, savedStates());
     }
 
-    private long mixBest(long start) {
-        if (deals() <= 0) {
+    private static long mixBest(long start, DealCount left) {
+        if (left.total <= 0) {
             return start;
         }
-        long hash = mix(start, bestAccusation());
+        long hash = mix(start, left.likeliestEnvelope());
         for (int player = 0; player < PLAYERS; player++) {
-            hash = mix(hash, bestQuestion(player));
+            hash = mix(hash, left.sharpestQuestion(player));
         }
         return hash;
     }
 
-    private long mixClues(long start) {
+    private long mixClues(long start, DealCount left) {
         long hash = start;
         for (int clue = 0; clue < now.count; clue++) {
             hash = mix(hash, kindOf(clue));
             hash = mix(hash, playerOf(clue));
             hash = mix(hash, cardsOf(clue));
             hash = mixFlag(hash, isTrue(clue));
-            hash = mix(hash, dealsWithout(clue));
+            hash = mix(hash, left.withoutClue(clue));
         }
         return hash;
     }
 
-    private long mixCards(long start) {
+    private long mixCards(long start, DealCount left, RuleSheet sheet) {
         long hash = start;
         for (int card = 0; card < CARDS; card++) {
             hash = mix(hash, truePlace(card));
-            hash = mix(hash, certainPlace(card));
-            hash = mix(hash, placeByRules(card));
+            hash = mix(hash, left.surePlace(card));
+            hash = mix(hash, sheet.onlyPlace(card));
             for (int place = 0; place < PLACES; place++) {
-                hash = mix(hash, dealsWith(card, place));
-                hash = mixFlag(hash, mayBeByRules(card, place));
+                hash = mix(hash, left.withCardAt(card, place));
+                hash = mixFlag(hash, sheet.has(card, place));
             }
         }
         return hash;
     }
 
-    private long mixTriples(long start) {
+    private static long mixTriples(long start, DealCount left) {
         long hash = start;
         for (int triple = 0; triple < TRIPLES; triple++) {
-            hash = mix(hash, envelopeDeals(triple));
+            hash = mix(hash, left.withEnvelope(triple));
             for (int player = 0; player < PLAYERS; player++) {
-                hash = mix(hash, leftBy(player, triple));
+                hash = mix(hash, left.behindQuestion(player, triple));
             }
         }
         return hash;
@@ -572,10 +533,10 @@ public final class AlibiDeals {
     private void addPart(int letter, int player, int number) {
         switch (letter) {
             case 'h':
-                now.add(HAS, player, bit(number));
+                now.add(HAS, player, 1 << number);
                 break;
             case 'l':
-                now.add(LACKS, player, bit(number));
+                now.add(LACKS, player, 1 << number);
                 break;
             case 's':
                 now.add(SHOWS, player, cardsOfTriple(number));
@@ -609,8 +570,11 @@ public final class AlibiDeals {
             dropOldest();
         }
         if (savedCount >= 0 && savedCount < MAX_SAVED) {
-            saved[savedCount].copyFrom(now);
-            savedCount++;
+            State row = saved[savedCount];
+            if (row != null) {
+                row.copyFrom(now);
+                savedCount++;
+            }
         }
         forgetCounts();
     }
@@ -645,14 +609,11 @@ public final class AlibiDeals {
         return ruleSheet;
     }
 
-    private int likeliestEnvelope() {
-        int best = 0;
-        for (int triple = 1; triple < TRIPLES; triple++) {
-            if (envelopeDeals(triple) > envelopeDeals(best)) {
-                best = triple;
-            }
+    private HandCount countedHands() {
+        if (!handCount.fresh) {
+            handCount.count(now);
         }
-        return best;
+        return handCount;
     }
 
     // ---- what a call refuses
@@ -711,16 +672,16 @@ public final class AlibiDeals {
         }
     }
 
-    private void checkDealLeft() {
-        if (deals() <= 0) {
+    private static void checkSome(int dealsLeft) {
+        if (dealsLeft <= 0) {
             throw new IllegalStateException("no deal is left");
         }
     }
 
     // ---- cards as masks
 
-    private static int bit(int number) {
-        return 1 << number;
+    private static int mask(int suspect, int tool, int room) {
+        return (1 << suspect) | (1 << tool) | (1 << room);
     }
 
     private static int cardsOfKind(int kind) {
@@ -728,13 +689,13 @@ public final class AlibiDeals {
     }
 
     private static int cardsOfTriple(int triple) {
-        return bit(triple / 9) | bit(KIND_CARDS + triple / 3 % 3) | bit(2 * KIND_CARDS + triple % 3);
+        return mask(triple / 9, KIND_CARDS + triple / 3 % 3, 2 * KIND_CARDS + triple % 3);
     }
 
     private static int numberOfTriple(int cards) {
         int number = 0;
         for (int card = 0; card < CARDS; card++) {
-            if ((cards & bit(card)) != 0) {
+            if ((cards & (1 << card)) != 0) {
                 number = 3 * number + card % 3;
             }
         }
@@ -751,9 +712,9 @@ public final class AlibiDeals {
 
     /** If just one of the two cards is in the mask, the other one comes in its stead. */
     private static int exchanged(int cards, int card, int other) {
-        boolean hasCard = (cards & bit(card)) != 0;
-        boolean hasOther = (cards & bit(other)) != 0;
-        return hasCard == hasOther ? cards : cards ^ bit(card) ^ bit(other);
+        boolean hasCard = (cards & (1 << card)) != 0;
+        boolean hasOther = (cards & (1 << other)) != 0;
+        return hasCard == hasOther ? cards : cards ^ (1 << card) ^ (1 << other);
     }
 
     /** What undo and the snapshot bring back: the master's deal, the clues and the latest stop. */
@@ -768,13 +729,16 @@ public final class AlibiDeals {
         int why;
 
         void dealAtFirst() {
-            deal[0] = bit(1) | bit(2);
-            deal[1] = bit(4) | bit(5);
-            deal[2] = bit(7) | bit(8);
-            deal[ENVELOPE] = bit(0) | bit(3) | bit(6);
+            deal[0] = (1 << 1) | (1 << 2);
+            deal[1] = (1 << 4) | (1 << 5);
+            deal[2] = (1 << 7) | (1 << 8);
+            deal[ENVELOPE] = (1 << 0) | (1 << 3) | (1 << 6);
         }
 
         void copyFrom(State other) {
+            if (other == null) {
+                return;
+            }
             for (int i = 0; i < PLACES; i++) {
                 deal[i] = other.deal[i];
             }
@@ -818,8 +782,8 @@ public final class AlibiDeals {
         int addSight(int player, int asked) {
             int seen = handOf(player, asked);
             for (int card = 0; card < CARDS; card++) {
-                if ((seen & bit(card)) != 0) {
-                    add(HAS, player, bit(card));
+                if ((seen & (1 << card)) != 0) {
+                    add(HAS, player, 1 << card);
                     return card;
                 }
             }
@@ -839,7 +803,7 @@ public final class AlibiDeals {
 
         int placeOf(int card) {
             for (int i = 0; i < PLACES; i++) {
-                if ((deal[i] & bit(card)) != 0) {
+                if ((deal[i] & (1 << card)) != 0) {
                     return i;
                 }
             }
@@ -879,52 +843,46 @@ public final class AlibiDeals {
     private static final class DealCount {
         private static final int HANDS = ALL_CARDS + 1;
 
-        final int[] with = new int[CARDS * PLACES];
-        final int[] inEnvelope = new int[TRIPLES];
-        /** For each clue the deals with which it alone does not agree: they would be left without it. */
-        final int[] hinderedBy = new int[MAX_CLUES];
         int total;
         boolean fresh;
+        private final int[] cardAt = new int[CARDS * PLACES];
+        private final int[] inEnvelope = new int[TRIPLES];
+        private final int[] withHand = new int[PLAYERS * HANDS];
+        /** For each clue the deals with which it alone does not agree: they would be left without it. */
+        private final int[] hinderedBy = new int[MAX_CLUES];
         private final int[] some = new int[PLACES];
         private final int[] placeOfCard = new int[CARDS];
-        private final int[] withHand = new int[PLAYERS * HANDS];
 
         void count(State state) {
-            clear();
-            dealFrom(0, this, state);
+            total = 0;
+            clear(cardAt);
+            clear(inEnvelope);
+            clear(withHand);
+            clear(hinderedBy);
+            clear(some);
+            dealFrom(0, 0, this, state);
             fresh = true;
         }
 
-        private void clear() {
-            total = 0;
-            for (int i = 0; i < with.length; i++) {
-                with[i] = 0;
-            }
-            for (int i = 0; i < TRIPLES; i++) {
-                inEnvelope[i] = 0;
-            }
-            for (int i = 0; i < MAX_CLUES; i++) {
-                hinderedBy[i] = 0;
-            }
-            for (int i = 0; i < PLACES; i++) {
-                some[i] = 0;
-            }
-            for (int i = 0; i < withHand.length; i++) {
-                withHand[i] = 0;
+        private static void clear(int[] row) {
+            for (int i = 0; i < row.length; i++) {
+                row[i] = 0;
             }
         }
 
-        private static void dealFrom(int card, DealCount count, State state) {
+        /** Cards come in the order of their kinds, so the envelope's triple grows by its parts from the left. */
+        private static void dealFrom(int card, int triple, DealCount count, State state) {
             if (card < 0 || card >= CARDS) {
-                count.judge(state);
+                count.judge(triple, state);
                 return;
             }
             for (int place = 0; place < PLACES; place++) {
                 if (count.hasRoom(card, place)) {
-                    count.some[place] |= bit(card);
+                    count.some[place] |= 1 << card;
                     count.placeOfCard[card] = place;
-                    dealFrom(card + 1, count, state);
-                    count.some[place] &= ~bit(card);
+                    int then = place == ENVELOPE ? KIND_CARDS * triple + card % KIND_CARDS : triple;
+                    dealFrom(card + 1, then, count, state);
+                    count.some[place] &= ~(1 << card);
                 }
             }
         }
@@ -940,7 +898,7 @@ public final class AlibiDeals {
                     && place >= 0 && place < PLAYERS && Integer.bitCount(some[place]) < HAND_CARDS;
         }
 
-        private void judge(State state) {
+        private void judge(int triple, State state) {
             int against = 0;
             int last = 0;
             for (int clue = 0; clue < state.count && against < 2; clue++) {
@@ -950,18 +908,17 @@ public final class AlibiDeals {
                 }
             }
             if (against == 0) {
-                include();
+                include(triple);
             } else if (against == 1 && last < MAX_CLUES) {
                 hinderedBy[last]++;
             }
         }
 
-        private void include() {
+        private void include(int triple) {
             total++;
             for (int card = 0; card < CARDS; card++) {
-                with[card * PLACES + placeOfCard[card]]++;
+                cardAt[card * PLACES + placeOfCard[card]]++;
             }
-            int triple = numberOfTriple(some[ENVELOPE]);
             if (triple >= 0 && triple < TRIPLES) {
                 inEnvelope[triple]++;
             }
@@ -970,18 +927,103 @@ public final class AlibiDeals {
             }
         }
 
-        int dealsWithNone(int player, int cards) {
+        int withCardAt(int card, int place) {
+            boolean there = card >= 0 && card < CARDS && place >= 0 && place < PLACES;
+            return there ? cardAt[card * PLACES + place] : 0;
+        }
+
+        int surePlace(int card) {
+            for (int place = 0; place < PLACES; place++) {
+                if (total > 0 && withCardAt(card, place) == total) {
+                    return place;
+                }
+            }
+            return -1;
+        }
+
+        int sureCards() {
+            int sure = 0;
+            for (int card = 0; card < CARDS; card++) {
+                sure += surePlace(card) >= 0 ? 1 : 0;
+            }
+            return sure;
+        }
+
+        int placesLeft() {
+            int left = 0;
+            for (int i = 0; i < cardAt.length; i++) {
+                left += cardAt[i] > 0 ? 1 : 0;
+            }
+            return left;
+        }
+
+        int withEnvelope(int triple) {
+            return triple >= 0 && triple < TRIPLES ? inEnvelope[triple] : 0;
+        }
+
+        int envelopesLeft() {
+            int left = 0;
+            for (int triple = 0; triple < TRIPLES; triple++) {
+                left += inEnvelope[triple] > 0 ? 1 : 0;
+            }
+            return left;
+        }
+
+        int likeliestEnvelope() {
+            int best = 0;
+            for (int triple = 1; triple < TRIPLES; triple++) {
+                best = withEnvelope(triple) > withEnvelope(best) ? triple : best;
+            }
+            return best;
+        }
+
+        double shareOfLikeliest() {
+            return total <= 0 ? 0.0 : (double) withEnvelope(likeliestEnvelope()) / (double) total;
+        }
+
+        int withNone(int player, int triple) {
             if (player < 0 || player >= PLAYERS) {
                 return 0;
             }
+            int cards = cardsOfTriple(triple);
             int found = 0;
             for (int first = 0; first < CARDS; first++) {
                 for (int second = first + 1; second < CARDS; second++) {
-                    int hand = bit(first) | bit(second);
+                    int hand = (1 << first) | (1 << second);
                     found += (hand & cards) == 0 ? withHand[player * HANDS + hand] : 0;
                 }
             }
             return found;
+        }
+
+        int behindQuestion(int player, int triple) {
+            int passed = withNone(player, triple);
+            return Math.max(passed, total - passed);
+        }
+
+        int sharpestQuestion(int player) {
+            int best = 0;
+            int least = behindQuestion(player, 0);
+            for (int triple = 1; triple < TRIPLES; triple++) {
+                int left = behindQuestion(player, triple);
+                if (left < least) {
+                    least = left;
+                    best = triple;
+                }
+            }
+            return best;
+        }
+
+        int withoutClue(int clue) {
+            return clue >= 0 && clue < MAX_CLUES ? total + hinderedBy[clue] : total;
+        }
+
+        int idleAmong(int clues) {
+            int idle = 0;
+            for (int clue = 0; clue < clues; clue++) {
+                idle += withoutClue(clue) == total ? 1 : 0;
+            }
+            return idle;
         }
     }
 
@@ -1012,7 +1054,7 @@ public final class AlibiDeals {
             int found = 0;
             for (int first = 0; first < CARDS; first++) {
                 for (int second = first + 1; second < CARDS; second++) {
-                    int hand = bit(first) | bit(second);
+                    int hand = (1 << first) | (1 << second);
                     if ((free & hand) == hand) {
                         count.some[player] = hand;
                         found += countHands(player + 1, free & ~hand, count, state);
@@ -1030,9 +1072,9 @@ public final class AlibiDeals {
      * breakdown at the end is enough.
      */
     private static final class RuleSheet {
-        final int[] places = new int[CARDS];
         boolean broken;
         boolean fresh;
+        private final int[] places = new int[CARDS];
 
         void fill(State state) {
             setAll(ALL_PLACES);
@@ -1064,6 +1106,19 @@ public final class AlibiDeals {
                 left += Integer.bitCount(places[card]);
             }
             return left;
+        }
+
+        boolean has(int card, int place) {
+            return card >= 0 && card < CARDS && (places[card] & (1 << place)) != 0;
+        }
+
+        int onlyPlace(int card) {
+            for (int place = 0; place < PLACES; place++) {
+                if (card >= 0 && card < CARDS && places[card] == (1 << place)) {
+                    return place;
+                }
+            }
+            return -1;
         }
 
         private void applyClues(State state) {
@@ -1123,16 +1178,16 @@ public final class AlibiDeals {
 
         private void keepOnly(int cards, int place) {
             for (int card = 0; card < CARDS; card++) {
-                if ((cards & bit(card)) != 0) {
-                    places[card] &= bit(place);
+                if ((cards & (1 << card)) != 0) {
+                    places[card] &= 1 << place;
                 }
             }
         }
 
         private void crossOff(int cards, int place) {
             for (int card = 0; card < CARDS; card++) {
-                if ((cards & bit(card)) != 0) {
-                    places[card] &= ~bit(place);
+                if ((cards & (1 << card)) != 0) {
+                    places[card] &= ~(1 << place);
                 }
             }
         }
@@ -1140,8 +1195,8 @@ public final class AlibiDeals {
         private int withPlace(int cards, int place) {
             int found = 0;
             for (int card = 0; card < CARDS; card++) {
-                if ((cards & bit(card)) != 0 && (places[card] & bit(place)) != 0) {
-                    found |= bit(card);
+                if ((cards & (1 << card)) != 0 && (places[card] & (1 << place)) != 0) {
+                    found |= 1 << card;
                 }
             }
             return found;
@@ -1150,8 +1205,8 @@ public final class AlibiDeals {
         private int withOnly(int cards, int place) {
             int found = 0;
             for (int card = 0; card < CARDS; card++) {
-                if ((cards & bit(card)) != 0 && places[card] == bit(place)) {
-                    found |= bit(card);
+                if ((cards & (1 << card)) != 0 && places[card] == (1 << place)) {
+                    found |= 1 << card;
                 }
             }
             return found;
