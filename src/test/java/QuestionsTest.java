@@ -5,6 +5,7 @@ public final class QuestionsTest {
         promise46();
         promise47();
         promise48();
+        promise48Changes();
         promise49();
         promise50();
         promise51();
@@ -113,6 +114,34 @@ public final class QuestionsTest {
         dueWithout("s0:0;p0:0", 1026, 1404);
         dueWithout("s0:0;p0:0;n4", 990, 1350, 0);
         dueWithout("i0;h0:1;h0:2;h1:4;h1:5", 3, 3, 3, 3, 3);
+    }
+
+    /** What is counted once must not stand when clues change. */
+    private static void promise48Changes() {
+        AlibiDeals x = new AlibiDeals();
+        x.noteHas(0, 0);
+        Checks.due("48: dealsWithout(0) of one clue", x.dealsWithout(0), 2430);
+        Checks.due("49: idleClues() of one clue", x.idleClues(), 0);
+        x.accuse(0, 3, 6);
+        Checks.due("48: dealsWithout(0) behind accuse", x.dealsWithout(0), 90);
+        Checks.due("48: dealsWithout(1) behind accuse", x.dealsWithout(1), 540);
+        x.undo();
+        Checks.due("48: dealsWithout(0) behind undo()", x.dealsWithout(0), 2430);
+        Checks.dueThrows(x, "48: dealsWithout(1) behind undo()", Checks.INDEX, () -> x.dealsWithout(1));
+        x.noteHas(0, 0);
+        Checks.due("48: dealsWithout(0) behind noteHas", x.dealsWithout(0), 540);
+        Checks.due("49: idleClues() behind noteHas", x.idleClues(), 2);
+        x.dropClue(0);
+        Checks.due("48: dealsWithout(0) behind dropClue(0)", x.dealsWithout(0), 2430);
+        Checks.due("49: idleClues() behind dropClue(0)", x.idleClues(), 0);
+        x.keep();
+        Checks.works(x, "x0;s0:0;p0:0");
+        Checks.due("48: dealsWithout(0) behind work()", x.dealsWithout(0), 1026);
+        Checks.due("48: dealsWithout(1) behind work()", x.dealsWithout(1), 1404);
+        x.restore();
+        Checks.due("48: dealsWithout(0) behind restore()", x.dealsWithout(0), 2430);
+        x.exchange(1, 2);
+        Checks.due("48: dealsWithout(0) behind exchange(1, 2)", x.dealsWithout(0), 2430);
     }
 
     private static void promise49() {

@@ -10,6 +10,7 @@ public final class RulesTest {
         noBreakdowns();
         promise40();
         changes();
+        droppedClues();
         refusals();
         Checks.end();
     }
@@ -158,6 +159,20 @@ public final class RulesTest {
         Checks.due("38: placeByRules(0) behind exchange(1, 4)", x.placeByRules(0), 1);
         Checks.works(x, "i0");
         Checks.due("36: isBroken() behind work()", x.isBroken(), true);
+    }
+
+    /** A clue that is dropped from the end of the row must not work on, with no rule and in no breakdown. */
+    private static void droppedClues() {
+        String[] last = {"s0:0", "h0:1;h0:0", "h2:6", "i0;n0", "i0;i1"};
+        for (String works : last) {
+            AlibiDeals x = with("l0:0;l0:3;l0:6");
+            Checks.works(x, works);
+            Checks.due("36: isBroken() with " + works, x.isBroken(), !works.equals("h2:6"));
+            while (x.clues() > 3) {
+                x.dropClue(x.clues() - 1);
+            }
+            dueSheet(x, "three, " + works + " is dropped", "123 * * 123 * * 123 * *");
+        }
     }
 
     private static void refusals() {
