@@ -70,6 +70,15 @@ final class Checks {
         return x.work();
     }
 
+    /** A new object on which these works are done, all of them. */
+    static AlibiDeals with(String works) {
+        AlibiDeals x = new AlibiDeals();
+        if (!works.isEmpty()) {
+            due("work() of " + works, works(x, works), works.split(";").length);
+        }
+        return x;
+    }
+
     static void end() {
         System.out.println(wrong == 0 ? "all answers are as due" : wrong + " answers are not as due");
         if (wrong != 0) {

@@ -12,18 +12,11 @@ public final class LeftDealsTest {
         Checks.end();
     }
 
-    private static AlibiDeals with(String works) {
-        AlibiDeals x = new AlibiDeals();
-        int parts = works.split(";").length;
-        Checks.due("work() of " + works, Checks.works(x, works), parts);
-        return x;
-    }
-
     private static void dueDeals(String works, int want) {
-        AlibiDeals x = with(works);
+        AlibiDeals x = Checks.with(works);
         Checks.due("30: deals() of " + works, x.deals(), want);
         Checks.due("31: dealsByHands() of " + works, x.dealsByHands(), want);
-        AlibiDeals y = with(works);
+        AlibiDeals y = Checks.with(works);
         Checks.due("31: dealsByHands() first, of " + works, y.dealsByHands(), want);
     }
 
@@ -125,7 +118,7 @@ public final class LeftDealsTest {
     }
 
     private static void promise32Sums() {
-        AlibiDeals x = with("s0:5;p1:22;n7;l2:4");
+        AlibiDeals x = Checks.with("s0:5;p1:22;n7;l2:4");
         int left = x.deals();
         int[] places = new int[4];
         for (int card = 0; card < 9; card++) {
@@ -160,13 +153,13 @@ public final class LeftDealsTest {
         for (int card = 0; card < 9; card++) {
             Checks.due("33: mayBe(" + card + ", 1), none left", x.mayBe(card, 1), false);
         }
-        AlibiDeals y = with("i0;h0:1;h0:2;h1:4;h1:5");
+        AlibiDeals y = Checks.with("i0;h0:1;h0:2;h1:4;h1:5");
         Checks.due("33: mayBe(8, 2), the only deal", y.mayBe(8, 2), true);
         Checks.due("33: mayBe(8, 1), the only deal", y.mayBe(8, 1), false);
     }
 
     private static void duePlaces(String works, int[] want) {
-        AlibiDeals x = with(works);
+        AlibiDeals x = Checks.with(works);
         int certain = 0;
         for (int card = 0; card < 9; card++) {
             Checks.due("34: certainPlace(" + card + ") of " + works, x.certainPlace(card), want[card]);
@@ -194,12 +187,12 @@ public final class LeftDealsTest {
         Checks.due("35: certainCards() of h0:1", x.certainCards(), 1);
         x.undo();
         Checks.due("35: certainCards() behind undo()", x.certainCards(), 0);
-        Checks.due("35: certainCards() of all", with("i0;h0:1;h0:2;h1:4;h1:5").certainCards(), 9);
+        Checks.due("35: certainCards() of all", Checks.with("i0;h0:1;h0:2;h1:4;h1:5").certainCards(), 9);
     }
 
     private static void refusals() {
         for (String works : new String[] {"n0", "h0:0;h1:0"}) {
-            AlibiDeals x = with(works);
+            AlibiDeals x = Checks.with(works);
             for (int no : new int[] {-1, 9, Integer.MIN_VALUE, Integer.MAX_VALUE}) {
                 Checks.dueThrows(x, "32: dealsWith(" + no + ", 0)", Checks.INDEX, () -> x.dealsWith(no, 0));
                 Checks.dueThrows(x, "33: mayBe(" + no + ", 0)", Checks.INDEX, () -> x.mayBe(no, 0));

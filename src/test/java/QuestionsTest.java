@@ -15,14 +15,6 @@ public final class QuestionsTest {
         Checks.end();
     }
 
-    private static AlibiDeals with(String works) {
-        AlibiDeals x = new AlibiDeals();
-        if (!works.isEmpty()) {
-            Checks.due("work() of " + works, Checks.works(x, works), works.split(";").length);
-        }
-        return x;
-    }
-
     private static void promise45() {
         AlibiDeals x = new AlibiDeals();
         for (int player = 0; player < 3; player++) {
@@ -30,22 +22,22 @@ public final class QuestionsTest {
                 Checks.due("45: dealsIfPassed at first", x.dealsIfPassed(player, triple), 1026);
             }
         }
-        AlibiDeals has = with("h0:0");
+        AlibiDeals has = Checks.with("h0:0");
         Checks.due("45: dealsIfPassed(0, 0) of h0:0", has.dealsIfPassed(0, 0), 0);
         Checks.due("45: dealsIfPassed(0, 8) of h0:0", has.dealsIfPassed(0, 8), 0);
         Checks.due("45: dealsIfPassed(0, 13) of h0:0", has.dealsIfPassed(0, 13), 342);
         Checks.due("45: dealsIfPassed(0, 26) of h0:0", has.dealsIfPassed(0, 26), 342);
-        AlibiDeals passed = with("p1:7");
+        AlibiDeals passed = Checks.with("p1:7");
         Checks.due("45: dealsIfPassed(1, 7) of p1:7", passed.dealsIfPassed(1, 7), 1026);
-        AlibiDeals shown = with("s1:7");
+        AlibiDeals shown = Checks.with("s1:7");
         Checks.due("45: dealsIfPassed(1, 7) of s1:7", shown.dealsIfPassed(1, 7), 0);
-        AlibiDeals one = with("i0;h0:1;h0:2;h1:4;h1:5");
+        AlibiDeals one = Checks.with("i0;h0:1;h0:2;h1:4;h1:5");
         for (int triple = 0; triple < 27; triple++) {
             Checks.due("45: dealsIfPassed(0, " + triple + ")", one.dealsIfPassed(0, triple), triple < 9 ? 1 : 0);
             Checks.due("45: dealsIfPassed(1, " + triple + ")", one.dealsIfPassed(1, triple), triple / 3 % 3 == 0 ? 1 : 0);
             Checks.due("45: dealsIfPassed(2, " + triple + ")", one.dealsIfPassed(2, triple), triple % 3 == 0 ? 1 : 0);
         }
-        AlibiDeals none = with("i0;n0");
+        AlibiDeals none = Checks.with("i0;n0");
         Checks.due("45: dealsIfPassed(0, 0), none left", none.dealsIfPassed(0, 0), 0);
     }
 
@@ -56,44 +48,44 @@ public final class QuestionsTest {
                 Checks.due("46: leftBy at first", x.leftBy(player, triple), 1404);
             }
         }
-        AlibiDeals has = with("h0:0");
+        AlibiDeals has = Checks.with("h0:0");
         Checks.due("46: leftBy(0, 0) of h0:0", has.leftBy(0, 0), 540);
         Checks.due("46: leftBy(0, 13) of h0:0", has.leftBy(0, 13), 342);
-        AlibiDeals passed = with("p1:7");
+        AlibiDeals passed = Checks.with("p1:7");
         Checks.due("46: leftBy(1, 7) of p1:7", passed.leftBy(1, 7), 1026);
-        AlibiDeals shown = with("s1:7");
+        AlibiDeals shown = Checks.with("s1:7");
         Checks.due("46: leftBy(1, 7) of s1:7", shown.leftBy(1, 7), 1404);
-        Checks.due("46: leftBy(0, 0), none left", with("i0;n0").leftBy(0, 0), 0);
-        Checks.due("46: leftBy(2, 0) of one deal", with("i0;h0:1;h0:2;h1:4;h1:5").leftBy(2, 0), 1);
-        Checks.due("46: leftBy(2, 1) of one deal", with("i0;h0:1;h0:2;h1:4;h1:5").leftBy(2, 1), 1);
+        Checks.due("46: leftBy(0, 0), none left", Checks.with("i0;n0").leftBy(0, 0), 0);
+        Checks.due("46: leftBy(2, 0) of one deal", Checks.with("i0;h0:1;h0:2;h1:4;h1:5").leftBy(2, 0), 1);
+        Checks.due("46: leftBy(2, 1) of one deal", Checks.with("i0;h0:1;h0:2;h1:4;h1:5").leftBy(2, 1), 1);
     }
 
     private static void promise47() {
         AlibiDeals x = new AlibiDeals();
-        AlibiDeals has = with("h0:0");
+        AlibiDeals has = Checks.with("h0:0");
         for (int player = 0; player < 3; player++) {
             Checks.due("47: bestQuestion at first", x.bestQuestion(player), 0);
         }
         Checks.due("47: bestQuestion(0) of h0:0", has.bestQuestion(0), 9);
         Checks.due("47: bestQuestion(1) of h0:0", has.bestQuestion(1), 0);
-        Checks.due("47: bestQuestion(0) of i26", with("i26").bestQuestion(0), 2);
-        Checks.due("47: bestQuestion(0) of i0", with("i0").bestQuestion(0), 4);
-        AlibiDeals one = with("i0;h0:1;h0:2;h1:4;h1:5");
+        Checks.due("47: bestQuestion(0) of i26", Checks.with("i26").bestQuestion(0), 2);
+        Checks.due("47: bestQuestion(0) of i0", Checks.with("i0").bestQuestion(0), 4);
+        AlibiDeals one = Checks.with("i0;h0:1;h0:2;h1:4;h1:5");
         Checks.due("47: bestQuestion(2) of one deal", one.bestQuestion(2), 0);
-        AlibiDeals two = with("i0;h0:1;h0:2;h1:4;l1:7");
+        AlibiDeals two = Checks.with("i0;h0:1;h0:2;h1:4;l1:7");
         Checks.due("47: bestQuestion(1) of two deals", two.bestQuestion(1), 2);
         Checks.due("47: bestQuestion(0) of two deals", two.bestQuestion(0), 0);
-        AlibiDeals none = with("i0;n0");
+        AlibiDeals none = Checks.with("i0;n0");
         for (int player = 0; player < 3; player++) {
             int p = player;
             Checks.dueThrows(none, "47: bestQuestion(" + p + "), none left", Checks.STATE, () -> none.bestQuestion(p));
         }
-        AlibiDeals unseen = with("h1:6;s1:8;s1:10");
+        AlibiDeals unseen = Checks.with("h1:6;s1:8;s1:10");
         Checks.dueThrows(unseen, "47: bestQuestion(0), none left", Checks.STATE, () -> unseen.bestQuestion(0));
     }
 
     private static void dueWithout(String works, int... want) {
-        AlibiDeals x = with(works);
+        AlibiDeals x = Checks.with(works);
         int idle = 0;
         for (int clue = 0; clue < want.length; clue++) {
             Checks.due("48: dealsWithout(" + clue + ") of " + works, x.dealsWithout(clue), want[clue]);
@@ -146,11 +138,11 @@ public final class QuestionsTest {
 
     private static void promise49() {
         Checks.due("49: idleClues() without clues", new AlibiDeals().idleClues(), 0);
-        Checks.due("49: idleClues() of i0", with("i0").idleClues(), 0);
-        Checks.due("49: idleClues() of i0;i0", with("i0;i0").idleClues(), 2);
-        Checks.due("49: idleClues() of h0:0;l1:0", with("h0:0;l1:0").idleClues(), 1);
-        Checks.due("49: idleClues() of i0;i9;i18", with("i0;i9;i18").idleClues(), 3);
-        Checks.due("49: idleClues() of i0;i9", with("i0;i9").idleClues(), 0);
+        Checks.due("49: idleClues() of i0", Checks.with("i0").idleClues(), 0);
+        Checks.due("49: idleClues() of i0;i0", Checks.with("i0;i0").idleClues(), 2);
+        Checks.due("49: idleClues() of h0:0;l1:0", Checks.with("h0:0;l1:0").idleClues(), 1);
+        Checks.due("49: idleClues() of i0;i9;i18", Checks.with("i0;i9;i18").idleClues(), 3);
+        Checks.due("49: idleClues() of i0;i9", Checks.with("i0;i9").idleClues(), 0);
         AlibiDeals x = new AlibiDeals();
         for (int i = 0; i < 20; i++) {
             x.noteHas(0, 0);
@@ -163,13 +155,13 @@ public final class QuestionsTest {
 
     private static void promise50() {
         Checks.dueShare("50: chance() at first", new AlibiDeals().chance(), 90.0 / 2430.0);
-        Checks.dueShare("50: chance() of i0", with("i0").chance(), 1.0);
-        Checks.dueShare("50: chance() of i0;n0", with("i0;n0").chance(), 0.0);
-        Checks.dueShare("50: chance() of s0:0", with("s0:0").chance(), 72.0 / 1404.0);
-        Checks.dueShare("50: chance() of p0:0", with("p0:0").chance(), 90.0 / 1026.0);
-        Checks.dueShare("50: chance() of h0:0", with("h0:0").chance(), 30.0 / 540.0);
-        Checks.dueShare("50: chance() of n0", with("n0").chance(), 90.0 / 2340.0);
-        Checks.dueShare("50: chance() of two", with("h0:1;h0:2;h1:4;h1:5;h2:7").chance(), 0.5);
+        Checks.dueShare("50: chance() of i0", Checks.with("i0").chance(), 1.0);
+        Checks.dueShare("50: chance() of i0;n0", Checks.with("i0;n0").chance(), 0.0);
+        Checks.dueShare("50: chance() of s0:0", Checks.with("s0:0").chance(), 72.0 / 1404.0);
+        Checks.dueShare("50: chance() of p0:0", Checks.with("p0:0").chance(), 90.0 / 1026.0);
+        Checks.dueShare("50: chance() of h0:0", Checks.with("h0:0").chance(), 30.0 / 540.0);
+        Checks.dueShare("50: chance() of n0", Checks.with("n0").chance(), 90.0 / 2340.0);
+        Checks.dueShare("50: chance() of two", Checks.with("h0:1;h0:2;h1:4;h1:5;h2:7").chance(), 0.5);
     }
 
     private static void promise51() {
@@ -238,7 +230,7 @@ public final class QuestionsTest {
         Checks.works(x, "a0:12;v1:22;n3;l2:0;s2:17;x9");
         Checks.type(x, "h0:~");
         Checks.due("51: digest() by the list", x.digest(), listed(x, "h0:~"));
-        AlibiDeals none = with("i0;n0");
+        AlibiDeals none = Checks.with("i0;n0");
         Checks.due("51: digest() by the list, none left", none.digest(), listed(none, ""));
     }
 
@@ -286,7 +278,7 @@ public final class QuestionsTest {
 
     private static void refusals() {
         for (String works : new String[] {"n0", "i0;n0"}) {
-            AlibiDeals x = with(works);
+            AlibiDeals x = Checks.with(works);
             for (int no : new int[] {-1, 3, Integer.MIN_VALUE, Integer.MAX_VALUE}) {
                 Checks.dueThrows(x, "45: dealsIfPassed(" + no + ", 0)", Checks.INDEX, () -> x.dealsIfPassed(no, 0));
                 Checks.dueThrows(x, "46: leftBy(" + no + ", 0)", Checks.INDEX, () -> x.leftBy(no, 0));

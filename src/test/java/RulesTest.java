@@ -15,17 +15,9 @@ public final class RulesTest {
         Checks.end();
     }
 
-    private static AlibiDeals with(String works) {
-        AlibiDeals x = new AlibiDeals();
-        if (!works.isEmpty()) {
-            Checks.due("work() of " + works, Checks.works(x, works), works.split(";").length);
-        }
-        return x;
-    }
-
     /** The nine sets of places with a blank between them. */
     private static void dueSheet(String works, String want) {
-        dueSheet(with(works), works, want);
+        dueSheet(Checks.with(works), works, want);
     }
 
     private static void dueSheet(AlibiDeals x, String works, String want) {
@@ -88,7 +80,7 @@ public final class RulesTest {
     }
 
     private static void dueBroken(String works) {
-        AlibiDeals x = with(works);
+        AlibiDeals x = Checks.with(works);
         Checks.due("36: isBroken() of " + works, x.isBroken(), true);
         dueSheet(x, works, "- - - - - - - - -");
         Checks.due("40: hiddenCrosses() of " + works, x.hiddenCrosses(), 0);
@@ -119,7 +111,7 @@ public final class RulesTest {
 
     /** No deal is left, but the rules alone don't see it. */
     private static void noBreakdowns() {
-        AlibiDeals x = with("h1:6;s1:8;s1:10");
+        AlibiDeals x = Checks.with("h1:6;s1:8;s1:10");
         dueSheet(x, "h1:6;s1:8;s1:10", "* * * * * * 1 * *");
         Checks.due("36: isBroken()", x.isBroken(), false);
         Checks.due("30: deals()", x.deals(), 0);
@@ -128,13 +120,13 @@ public final class RulesTest {
 
     private static void promise40() {
         Checks.due("40: hiddenCrosses() at first", new AlibiDeals().hiddenCrosses(), 0);
-        Checks.due("40: hiddenCrosses() of h0:0", with("h0:0").hiddenCrosses(), 0);
-        Checks.due("40: hiddenCrosses() of h1:3;s1:5", with("h1:3;s1:5").hiddenCrosses(), 5);
-        Checks.due("39: crossedOff() of h1:3;s1:5", with("h1:3;s1:5").crossedOff(), 3);
-        Checks.due("40: hiddenCrosses() of s2:18;s2:5", with("s2:18;s2:5").hiddenCrosses(), 3);
-        Checks.due("39: crossedOff() of s2:18;s2:5", with("s2:18;s2:5").crossedOff(), 0);
-        Checks.due("40: hiddenCrosses() of i0;n0", with("i0;n0").hiddenCrosses(), 0);
-        Checks.due("40: hiddenCrosses() of one deal", with("i0;h0:1;h0:2;h1:4;h1:5").hiddenCrosses(), 0);
+        Checks.due("40: hiddenCrosses() of h0:0", Checks.with("h0:0").hiddenCrosses(), 0);
+        Checks.due("40: hiddenCrosses() of h1:3;s1:5", Checks.with("h1:3;s1:5").hiddenCrosses(), 5);
+        Checks.due("39: crossedOff() of h1:3;s1:5", Checks.with("h1:3;s1:5").crossedOff(), 3);
+        Checks.due("40: hiddenCrosses() of s2:18;s2:5", Checks.with("s2:18;s2:5").hiddenCrosses(), 3);
+        Checks.due("39: crossedOff() of s2:18;s2:5", Checks.with("s2:18;s2:5").crossedOff(), 0);
+        Checks.due("40: hiddenCrosses() of i0;n0", Checks.with("i0;n0").hiddenCrosses(), 0);
+        Checks.due("40: hiddenCrosses() of one deal", Checks.with("i0;h0:1;h0:2;h1:4;h1:5").hiddenCrosses(), 0);
     }
 
     /** The sheet follows each change of the clues, also the way back from a breakdown. */
@@ -165,7 +157,7 @@ public final class RulesTest {
     private static void droppedClues() {
         String[] last = {"s0:0", "h0:1;h0:0", "h2:6", "i0;n0", "i0;i1"};
         for (String works : last) {
-            AlibiDeals x = with("l0:0;l0:3;l0:6");
+            AlibiDeals x = Checks.with("l0:0;l0:3;l0:6");
             Checks.works(x, works);
             Checks.due("36: isBroken() with " + works, x.isBroken(), !works.equals("h2:6"));
             while (x.clues() > 3) {
@@ -177,7 +169,7 @@ public final class RulesTest {
 
     private static void refusals() {
         for (String works : new String[] {"", "i0;n0"}) {
-            AlibiDeals x = with(works);
+            AlibiDeals x = Checks.with(works);
             for (int no : new int[] {-1, 9, Integer.MIN_VALUE, Integer.MAX_VALUE}) {
                 Checks.dueThrows(x, "37: mayBeByRules(" + no + ", 0)", Checks.INDEX, () -> x.mayBeByRules(no, 0));
                 Checks.dueThrows(x, "38: placeByRules(" + no + ")", Checks.INDEX, () -> x.placeByRules(no));
