@@ -1,7 +1,5 @@
-/** Promises 36 to 40: what follows from clues by rules alone. Places are told as digits, card by card; "-" is none. */
+/** Promises 36 to 40: what follows from clues by rules alone. */
 public final class RulesTest {
-    private static final String ALL = "0123";
-
     public static void main(String[] args) {
         ruleOfEachClue();
         rulesOfKindsAndPlayers();
@@ -15,104 +13,74 @@ public final class RulesTest {
         Checks.end();
     }
 
-    /** The nine sets of places with a blank between them. */
-    private static void dueSheet(String works, String want) {
-        dueSheet(Checks.with(works), works, want);
-    }
-
-    private static void dueSheet(AlibiDeals x, String works, String want) {
-        String[] sets = want.split(" ");
-        int crossed = 36;
-        for (int card = 0; card < 9; card++) {
-            String set = sets[card].equals("*") ? ALL : sets[card].equals("-") ? "" : sets[card];
-            for (int place = 0; place < 4; place++) {
-                boolean may = set.indexOf('0' + place) >= 0;
-                Checks.due("37: mayBeByRules(" + card + ", " + place + ") of " + works, x.mayBeByRules(card, place), may);
-            }
-            int only = set.length() == 1 ? set.charAt(0) - '0' : -1;
-            Checks.due("38: placeByRules(" + card + ") of " + works, x.placeByRules(card), only);
-            crossed -= set.length();
-        }
-        Checks.due("36: isBroken() of " + works, x.isBroken(), crossed == 36);
-        Checks.due("39: crossedOff() of " + works, x.crossedOff(), crossed);
-    }
-
     private static void ruleOfEachClue() {
-        dueSheet("", "* * * * * * * * *");
-        dueSheet("h0:0", "0 * * * * * * * *");
-        dueSheet("h2:7", "* * * * * * * 2 *");
-        dueSheet("l0:0", "123 * * * * * * * *");
-        dueSheet("l2:8", "* * * * * * * * 013");
-        dueSheet("p1:0", "023 * * 023 * * 023 * *");
-        dueSheet("p2:26", "* * 013 * * 013 * * 013");
-        dueSheet("i0", "3 012 012 3 012 012 3 012 012");
-        dueSheet("i14", "012 3 012 012 3 012 012 012 3");
-        dueSheet("s0:0", "* * * * * * * * *");
-        dueSheet("s0:0;l0:0", "123 * * * * * * * *");
-        dueSheet("s0:0;l0:0;l0:3", "123 * * 123 * * 0 * *");
-        dueSheet("l0:3;l0:6;s0:0", "0 * * 123 * * 123 * *");
-        dueSheet("n0", "* * * * * * * * *");
-        dueSheet("n0;l0:0;l1:0;l2:0", "3 012 012 * * * * * *");
+        Sheets.dueSheet("", "* * * * * * * * *");
+        Sheets.dueSheet("h0:0", "0 * * * * * * * *");
+        Sheets.dueSheet("h2:7", "* * * * * * * 2 *");
+        Sheets.dueSheet("l0:0", "123 * * * * * * * *");
+        Sheets.dueSheet("l2:8", "* * * * * * * * 013");
+        Sheets.dueSheet("p1:0", "023 * * 023 * * 023 * *");
+        Sheets.dueSheet("p2:26", "* * 013 * * 013 * * 013");
+        Sheets.dueSheet("i0", "3 012 012 3 012 012 3 012 012");
+        Sheets.dueSheet("i14", "012 3 012 012 3 012 012 012 3");
+        Sheets.dueSheet("s0:0", "* * * * * * * * *");
+        Sheets.dueSheet("s0:0;l0:0", "123 * * * * * * * *");
+        Sheets.dueSheet("s0:0;l0:0;l0:3", "123 * * 123 * * 0 * *");
+        Sheets.dueSheet("l0:3;l0:6;s0:0", "0 * * 123 * * 123 * *");
+        Sheets.dueSheet("n0", "* * * * * * * * *");
+        Sheets.dueSheet("n0;l0:0;l1:0;l2:0", "3 012 012 * * * * * *");
     }
 
     private static void rulesOfKindsAndPlayers() {
-        dueSheet("l0:0;l1:0;l2:0;l0:3;l1:3;l2:3", "3 012 012 3 012 012 * * *");
-        dueSheet("n0;l0:0;l1:0;l2:0;l0:3;l1:3;l2:3", "3 012 012 3 012 012 012 * *");
-        dueSheet("l0:0;l1:0;l2:0;l0:6;l1:6;l2:6;n0", "3 012 012 012 * * 3 012 012");
-        dueSheet("l0:3;l1:3;l2:3;l0:6;l1:6;l2:6;n0", "012 * * 3 012 012 3 012 012");
-        dueSheet("h0:0;h1:1", "0 1 3 * * * * * *");
-        dueSheet("h2:4;h0:5", "* * * 3 2 0 * * *");
-        dueSheet("h0:3;h1:6", "* * * 0 * * 1 * *");
-        dueSheet("h0:0;h0:3", "0 123 123 0 123 123 123 123 123");
-        dueSheet("h1:8;h1:3", "023 023 023 1 023 023 023 023 1");
-        dueSheet("h0:0;h0:1", "0 0 3 123 123 123 123 123 123");
-        dueSheet("l2:0;l2:1;l2:2;l2:3;l2:4;l2:5;l2:6", "013 013 013 013 013 013 3 2 2");
-        dueSheet("l0:0;l0:1;l0:2;l0:3;l0:4;l0:6;l0:7", "123 123 123 123 123 0 123 123 0");
+        Sheets.dueSheet("l0:0;l1:0;l2:0;l0:3;l1:3;l2:3", "3 012 012 3 012 012 * * *");
+        Sheets.dueSheet("n0;l0:0;l1:0;l2:0;l0:3;l1:3;l2:3", "3 012 012 3 012 012 012 * *");
+        Sheets.dueSheet("l0:0;l1:0;l2:0;l0:6;l1:6;l2:6;n0", "3 012 012 012 * * 3 012 012");
+        Sheets.dueSheet("l0:3;l1:3;l2:3;l0:6;l1:6;l2:6;n0", "012 * * 3 012 012 3 012 012");
+        Sheets.dueSheet("h0:0;h1:1", "0 1 3 * * * * * *");
+        Sheets.dueSheet("h2:4;h0:5", "* * * 3 2 0 * * *");
+        Sheets.dueSheet("h0:3;h1:6", "* * * 0 * * 1 * *");
+        Sheets.dueSheet("h0:0;h0:3", "0 123 123 0 123 123 123 123 123");
+        Sheets.dueSheet("h1:8;h1:3", "023 023 023 1 023 023 023 023 1");
+        Sheets.dueSheet("h0:0;h0:1", "0 0 3 123 123 123 123 123 123");
+        Sheets.dueSheet("l2:0;l2:1;l2:2;l2:3;l2:4;l2:5;l2:6", "013 013 013 013 013 013 3 2 2");
+        Sheets.dueSheet("l0:0;l0:1;l0:2;l0:3;l0:4;l0:6;l0:7", "123 123 123 123 123 0 123 123 0");
     }
 
     private static void rulesInChains() {
-        dueSheet("i0;h0:1;h0:2;h1:4;h1:5", "3 0 0 3 1 1 3 2 2");
-        dueSheet("i0;h0:1;h0:2;h1:4;h2:5", "3 0 0 3 1 2 3 12 12");
-        dueSheet("s0:0;p0:1", "123 * * 123 * * 0 123 *");
-        dueSheet("h0:0;h0:3;s1:3;l1:6", "0 123 123 0 1 3 23 123 123");
-        dueSheet("s2:13;h0:1;h1:4", "* 0 * * 1 * * 2 *");
-        dueSheet("n9;h0:0;h1:2;h0:4;h2:5", "0 3 1 3 0 2 12 123 123");
-    }
-
-    private static void dueBroken(String works) {
-        AlibiDeals x = Checks.with(works);
-        Checks.due("36: isBroken() of " + works, x.isBroken(), true);
-        dueSheet(x, works, "- - - - - - - - -");
-        Checks.due("40: hiddenCrosses() of " + works, x.hiddenCrosses(), 0);
-        Checks.due("30: deals() of " + works, x.deals(), 0);
+        Sheets.dueSheet("i0;h0:1;h0:2;h1:4;h1:5", "3 0 0 3 1 1 3 2 2");
+        Sheets.dueSheet("i0;h0:1;h0:2;h1:4;h2:5", "3 0 0 3 1 2 3 12 12");
+        Sheets.dueSheet("s0:0;p0:1", "123 * * 123 * * 0 123 *");
+        Sheets.dueSheet("h0:0;h0:3;s1:3;l1:6", "0 123 123 0 1 3 23 123 123");
+        Sheets.dueSheet("s2:13;h0:1;h1:4", "* 0 * * 1 * * 2 *");
+        Sheets.dueSheet("n9;h0:0;h1:2;h0:4;h2:5", "0 3 1 3 0 2 12 123 123");
     }
 
     private static void breakdowns() {
-        dueBroken("h0:0;h1:0");
-        dueBroken("h0:0;l0:0");
-        dueBroken("l0:0;l1:0;l2:0;i9");
-        dueBroken("h0:0;p0:0");
-        dueBroken("h0:0;h1:1;h2:2");
-        dueBroken("h0:3;h0:4;h1:5");
-        dueBroken("h2:6;h1:7;h2:8");
-        dueBroken("i0;i9");
-        dueBroken("i0;i26");
-        dueBroken("l0:0;l1:0;l2:0;l0:1;l1:1;l2:1");
-        dueBroken("l0:0;l0:1;l0:2;l0:3;l0:4;l0:5;l0:6;l0:7");
-        dueBroken("p1:0;p1:13;p1:26");
-        dueBroken("h0:0;h0:3;h0:6");
-        dueBroken("h2:0;h2:1;h2:3");
-        dueBroken("s0:0;l0:0;l0:3;l0:6");
-        dueBroken("s1:26;p1:26");
-        dueBroken("i0;n0");
-        dueBroken("i13;s0:13");
-        dueBroken("n26;i26");
+        Sheets.dueBroken("h0:0;h1:0");
+        Sheets.dueBroken("h0:0;l0:0");
+        Sheets.dueBroken("l0:0;l1:0;l2:0;i9");
+        Sheets.dueBroken("h0:0;p0:0");
+        Sheets.dueBroken("h0:0;h1:1;h2:2");
+        Sheets.dueBroken("h0:3;h0:4;h1:5");
+        Sheets.dueBroken("h2:6;h1:7;h2:8");
+        Sheets.dueBroken("i0;i9");
+        Sheets.dueBroken("i0;i26");
+        Sheets.dueBroken("l0:0;l1:0;l2:0;l0:1;l1:1;l2:1");
+        Sheets.dueBroken("l0:0;l0:1;l0:2;l0:3;l0:4;l0:5;l0:6;l0:7");
+        Sheets.dueBroken("p1:0;p1:13;p1:26");
+        Sheets.dueBroken("h0:0;h0:3;h0:6");
+        Sheets.dueBroken("h2:0;h2:1;h2:3");
+        Sheets.dueBroken("s0:0;l0:0;l0:3;l0:6");
+        Sheets.dueBroken("s1:26;p1:26");
+        Sheets.dueBroken("i0;n0");
+        Sheets.dueBroken("i13;s0:13");
+        Sheets.dueBroken("n26;i26");
     }
 
     /** No deal is left, but the rules alone don't see it. */
     private static void noBreakdowns() {
         AlibiDeals x = Checks.with("h1:6;s1:8;s1:10");
-        dueSheet(x, "h1:6;s1:8;s1:10", "* * * * * * 1 * *");
+        Sheets.dueSheet(x, "h1:6;s1:8;s1:10", "* * * * * * 1 * *");
         Checks.due("36: isBroken()", x.isBroken(), false);
         Checks.due("30: deals()", x.deals(), 0);
         Checks.due("40: hiddenCrosses(), none left", x.hiddenCrosses(), 33);
@@ -163,7 +131,7 @@ public final class RulesTest {
             while (x.clues() > 3) {
                 x.dropClue(x.clues() - 1);
             }
-            dueSheet(x, "three, " + works + " is dropped", "123 * * 123 * * 123 * *");
+            Sheets.dueSheet(x, "three, " + works + " is dropped", "123 * * 123 * * 123 * *");
         }
     }
 
