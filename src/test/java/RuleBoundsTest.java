@@ -223,6 +223,9 @@ public final class RuleBoundsTest {
         Sheets.dueSheet(x, seven + ", and n1 by accuse(0, 3, 7)", "- - - - - - - - -");
         x.undo();
         Sheets.dueSheet(x, seven + ", undone", "3 0 2 3 2 1 0 3 1");
+        AlibiDeals y = Checks.with("s1:22;s0:9;s1:0;p2:16;s0:1;s2:26;p0:22");
+        Checks.works(y, "s0:15;s2:20;s2:9;n4;p2:15;n2");
+        Sheets.dueSheet(y, "a chain of 13 clues", "0 0 3 2 1 3 1 3 2");
     }
 
     /** "the number of places that are crossed off by rules, of all cards; 36 if the rules break down" */
