@@ -851,7 +851,6 @@ public final class AlibiDeals {
         /** For each clue the deals with which it alone does not agree: they would be left without it. */
         private final int[] hinderedBy = new int[MAX_CLUES];
         private final int[] some = new int[PLACES];
-        private final int[] placeOfCard = new int[CARDS];
 
         void count(State state) {
             total = 0;
@@ -879,7 +878,6 @@ public final class AlibiDeals {
             for (int place = 0; place < PLACES; place++) {
                 if (count.hasRoom(card, place)) {
                     count.some[place] |= 1 << card;
-                    count.placeOfCard[card] = place;
                     int then = place == ENVELOPE ? KIND_CARDS * triple + card % KIND_CARDS : triple;
                     dealFrom(card + 1, then, count, state);
                     count.some[place] &= ~(1 << card);
@@ -917,7 +915,9 @@ public final class AlibiDeals {
         private void include(int triple) {
             total++;
             for (int card = 0; card < CARDS; card++) {
-                cardAt[card * PLACES + placeOfCard[card]]++;
+                for (int place = 0; place < PLACES; place++) {
+                    cardAt[card * PLACES + place] += (some[place] >> card) & 1;
+                }
             }
             if (triple >= 0 && triple < TRIPLES) {
                 inEnvelope[triple]++;

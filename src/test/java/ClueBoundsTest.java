@@ -13,6 +13,7 @@ public final class ClueBoundsTest {
         dropAllOfNoneOneAndTwenty();
         noClue();
         twentyTrueAndTwentyUntrue();
+        hasAndLacksAtEachPlace();
         showsOneOrTwoCards();
         passesOnNone();
         notAllThreeInTheEnvelope();
@@ -221,6 +222,35 @@ public final class ClueBoundsTest {
         x.exchange(1, 8);
         dueUntrue(x, "19 times h2:8, and h0:8, behind exchange(1, 8)", 1);
         Checks.due("isTrue(19)", x.isTrue(19), false);
+    }
+
+    /** A master's deal with the card at this place. At first the cards 0, 3 and 6 are in the envelope. */
+    private static AlibiDeals withCardAt(int card, int place) {
+        AlibiDeals x = new AlibiDeals();
+        if (x.truePlace(card) == 3) {
+            x.exchange(card, card + 1);
+        }
+        for (int other = 0; other < 9; other++) {
+            boolean fits = x.truePlace(other) == place && (place != 3 || other / 3 == card / 3);
+            if (fits && x.truePlace(card) != place) {
+                x.exchange(card, other);
+            }
+        }
+        Checks.due("truePlace(" + card + "), brought to " + place, x.truePlace(card), place);
+        return x;
+    }
+
+    /** Kinds 0 and 1: "a player has a card", "a player lacks a card (does not have it)": also when the envelope has it. */
+    private static void hasAndLacksAtEachPlace() {
+        for (int card = 0; card < 9; card++) {
+            for (int place = 0; place < 4; place++) {
+                AlibiDeals x = withCardAt(card, place);
+                for (int player = 0; player < 3; player++) {
+                    dueTrue(x, "h" + player + ":" + card, place == player);
+                    dueTrue(x, "l" + player + ":" + card, place != player);
+                }
+            }
+        }
     }
 
     private static void dueTrue(AlibiDeals x, String works, boolean want) {

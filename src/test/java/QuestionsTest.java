@@ -8,6 +8,7 @@ public final class QuestionsTest {
         promise48Changes();
         promise49();
         promise50();
+        promise50OfEachShare();
         promise51();
         promise51Differs();
         promise51FromTheFace();
@@ -162,6 +163,22 @@ public final class QuestionsTest {
         Checks.dueShare("50: chance() of h0:0", Checks.with("h0:0").chance(), 30.0 / 540.0);
         Checks.dueShare("50: chance() of n0", Checks.with("n0").chance(), 90.0 / 2340.0);
         Checks.dueShare("50: chance() of two", Checks.with("h0:1;h0:2;h1:4;h1:5;h2:7").chance(), 0.5);
+    }
+
+    /** The chance is that of the best accusation, whatever share of the deals it has; the digest has all of its bits. */
+    private static void promise50OfEachShare() {
+        String[] some = {"s0:5;n7", "p1:22;s2:3", "l2:4;n0;n1", "s0:13;s1:13;s2:13", "h1:8;s2:8;l0:8;h0:2", "p2:17;p2:11;l1:2",
+            "n18;p1:18;h2:7;s2:6;p0:8;s0:5", "p2:6;n6;i20;s0:11", "l0:0;l0:4;l0:8;l1:2", "h0:1;h0:2;h1:4;h1:5;h2:7"};
+        for (String works : some) {
+            AlibiDeals x = Checks.with(works);
+            int most = 0;
+            for (int triple = 0; triple < 27; triple++) {
+                most = Math.max(most, x.envelopeDeals(triple));
+            }
+            Checks.due("43: envelopeDeals of the best of " + works, x.envelopeDeals(x.bestAccusation()), most);
+            Checks.dueShare("50: chance() of " + works, x.chance(), (double) most / (double) x.deals());
+            Checks.due("51: digest() of " + works, x.digest(), listed(x, ""));
+        }
     }
 
     private static void promise51() {
